@@ -1,0 +1,512 @@
+/** Each promise with answers worked out by hand: ordinary inputs, the edges, and wrong inputs. */
+public final class PromiseTest {
+    private static final int[] FAR_OUT = {Integer.MIN_VALUE, -1000, -1, 1000, Integer.MAX_VALUE};
+    private static int wrong = 0;
+
+    private static void due(String call, long got, long want) {
+        if (got != want) {
+            wrong++;
+            System.out.println(call + " answered " + got + ", due is " + want);
+        }
+    }
+
+    private static FewLooks withRow(int... digits) {
+        FewLooks x = new FewLooks();
+        x.places(digits.length);
+        for (int i = 0; i < digits.length; i++) {
+            x.digit(i, digits[i]);
+        }
+        return x;
+    }
+
+    private static FewLooks withBits(int... places) {
+        FewLooks x = new FewLooks();
+        for (int place : places) {
+            x.bit(place, 1);
+        }
+        return x;
+    }
+
+    /** Lines told as two-digit numbers, 12 for that between points 1 and 2. */
+    private static FewLooks withLines(int... lines) {
+        FewLooks x = new FewLooks();
+        for (int line : lines) {
+            x.line(line / 10, line % 10, true);
+        }
+        return x;
+    }
+
+    private static long rowOf(FewLooks x) {
+        long all = 0;
+        for (int i = 0; i < x.count(0); i++) {
+            int digit = x.digit(i, 0);
+            x.digit(i, digit);
+            all = all * 10 + digit;
+        }
+        return all;
+    }
+
+    private static long bitsOf(FewLooks x) {
+        long all = 0;
+        for (int i = 0; i < 8; i++) {
+            int bit = x.bit(i, 0);
+            x.bit(i, bit);
+            all = all * 10 + bit;
+        }
+        return all;
+    }
+
+    private static long linesOf(FewLooks x) {
+        long all = 0;
+        for (int a = 0; a < 6; a++) {
+            for (int b = a + 1; b < 6; b++) {
+                int was = x.line(a, b, true);
+                x.line(a, b, was == 1);
+                all = all * 2 + was;
+            }
+        }
+        return all;
+    }
+
+    private static long nearestRow(FewLooks x, int kind) {
+        long all = 0;
+        for (int i = 0; i < x.count(0); i++) {
+            all = all * 10 + x.nearest(kind, i);
+        }
+        return all;
+    }
+
+    private static void dueRatio(String call, FewLooks x, int subject, long above, long below) {
+        due(call + ", above", x.pass(subject, 0), above);
+        due(call + ", below", x.pass(subject, 1), below);
+    }
+
+    private static void newObject() {
+        FewLooks x = new FewLooks();
+        due("new: N", x.count(0), 8);
+        due("new: k", x.count(1), 3);
+        due("new: row", rowOf(x), 0);
+        due("new: bits", bitsOf(x), 0);
+        due("new: lines", linesOf(x), 0);
+        for (int subject = 0; subject <= 5; subject++) {
+            due("new: is " + subject, x.is(subject), 1);
+        }
+    }
+
+    private static void places() {
+        FewLooks x = new FewLooks();
+        due("places(5)", x.places(5), 8);
+        due("places(2)", x.places(2), 5);
+        due("places(8)", x.places(8), 2);
+        for (int i = 0; i < 8; i++) {
+            x.digit(i, 3);
+        }
+        for (int n : new int[] {1, 9, 0}) {
+            due("places(" + n + ")", x.places(n), FewLooks.BAD);
+        }
+        for (int n : FAR_OUT) {
+            due("places(" + n + ")", x.places(n), FewLooks.BAD);
+        }
+        due("row after refused places", rowOf(x), 33333333);
+        due("N after refused places", x.count(0), 8);
+        due("places(8) again", x.places(8), 8);
+        due("row after places(8)", rowOf(x), 0);
+        x.digit(7, 2);
+        x.places(3);
+        x.places(8);
+        due("row after fewer and more places", rowOf(x), 0);
+    }
+
+    private static void digit() {
+        FewLooks x = new FewLooks();
+        due("digit(0, 3)", x.digit(0, 3), 0);
+        due("digit(0, 1)", x.digit(0, 1), 3);
+        due("digit(7, 2)", x.digit(7, 2), 0);
+        due("digit(7, 0)", x.digit(7, 0), 2);
+        due("digit(8, 0)", x.digit(8, 0), FewLooks.BAD);
+        due("digit(0, 4)", x.digit(0, 4), FewLooks.BAD);
+        for (int bad : FAR_OUT) {
+            due("digit(" + bad + ", 0)", x.digit(bad, 0), FewLooks.BAD);
+            due("digit(0, " + bad + ")", x.digit(0, bad), FewLooks.BAD);
+        }
+        due("row after digits", rowOf(x), 10000000);
+        x.places(3);
+        due("digit(2, 1) of three", x.digit(2, 1), 0);
+        due("digit(3, 1) of three", x.digit(3, 1), FewLooks.BAD);
+        due("row of three", rowOf(x), 1);
+    }
+
+    private static void bit() {
+        FewLooks x = new FewLooks();
+        due("bit(0, 1)", x.bit(0, 1), 0);
+        due("bit(7, 1)", x.bit(7, 1), 0);
+        due("bit(7, 1) again", x.bit(7, 1), 1);
+        due("bit(0, 0)", x.bit(0, 0), 1);
+        due("bit(8, 0)", x.bit(8, 0), FewLooks.BAD);
+        due("bit(7, 2)", x.bit(7, 2), FewLooks.BAD);
+        for (int bad : FAR_OUT) {
+            due("bit(" + bad + ", 1)", x.bit(bad, 1), FewLooks.BAD);
+            due("bit(1, " + bad + ")", x.bit(1, bad), FewLooks.BAD);
+        }
+        due("bits", bitsOf(x), 1);
+    }
+
+    private static void linear() {
+        FewLooks x = withBits(0, 7);
+        due("linear(3)", x.linear(3), 1);
+        due("bits of 3", bitsOf(x), 1100110);
+        due("linear(8)", x.linear(8), FewLooks.BAD);
+        for (int bad : FAR_OUT) {
+            due("linear(" + bad + ")", x.linear(bad), FewLooks.BAD);
+        }
+        due("bits of 3 still", bitsOf(x), 1100110);
+        due("linear(7)", x.linear(7), 1);
+        due("bits of 7", bitsOf(x), 1101001);
+        due("linear(0)", x.linear(0), 1);
+        due("bits of 0", bitsOf(x), 0);
+    }
+
+    private static void line() {
+        FewLooks x = new FewLooks();
+        due("line(1, 4, true)", x.line(1, 4, true), 0);
+        due("line(4, 1, true)", x.line(4, 1, true), 1);
+        due("one line", x.count(2), 1);
+        due("line(4, 1, false)", x.line(4, 1, false), 1);
+        due("line(1, 4, false)", x.line(1, 4, false), 0);
+        due("line(0, 5, true)", x.line(0, 5, true), 0);
+        for (int a = 0; a < 6; a++) {
+            due("line of one and itself", x.line(a, a, true), FewLooks.BAD);
+        }
+        due("line(6, 0)", x.line(6, 0, true), FewLooks.BAD);
+        due("line(0, 6)", x.line(0, 6, true), FewLooks.BAD);
+        for (int bad : FAR_OUT) {
+            due("line(" + bad + ", 0)", x.line(bad, 0, true), FewLooks.BAD);
+            due("line(0, " + bad + ")", x.line(0, bad, false), FewLooks.BAD);
+        }
+        due("line 0 5 alone", linesOf(x), 1 << 10);
+    }
+
+    private static void draw() {
+        FewLooks x = new FewLooks();
+        due("draw(1)", x.draw(1), 3);
+        due("draw(6)", x.draw(6), 1);
+        due("draw(0)", x.draw(0), FewLooks.BAD);
+        due("draw(7)", x.draw(7), FewLooks.BAD);
+        for (int bad : FAR_OUT) {
+            due("draw(" + bad + ")", x.draw(bad), FewLooks.BAD);
+        }
+        due("draw(3)", x.draw(3), 6);
+    }
+
+    private static void is() {
+        due("rising", withRow(0, 0, 1, 3).is(0), 1);
+        due("not rising", withRow(0, 1, 0).is(0), 0);
+        due("mirrored, odd", withRow(1, 2, 1).is(1), 1);
+        due("mirrored, even", withRow(1, 2, 2, 1).is(1), 1);
+        due("not mirrored", withRow(1, 2, 2, 0).is(1), 0);
+        due("even", withRow(3, 1, 2).is(2), 1);
+        due("not even", withRow(3, 1, 1).is(2), 0);
+        due("round by two", withRow(0, 1, 0, 1).is(3), 1);
+        due("round by three", withRow(0, 1, 2, 0, 1, 2).is(3), 1);
+        due("round of three", withRow(2, 2, 2).is(3), 1);
+        due("not round of three", withRow(0, 1, 0).is(3), 0);
+        due("not round of four", withRow(0, 1, 1, 0).is(3), 0);
+        due("linear", withBits(4, 5, 6, 7).is(4), 1);
+        due("all ones is not linear", withBits(0, 1, 2, 3, 4, 5, 6, 7).is(4), 0);
+        due("two-coloured", withLines(1, 12, 23, 30).is(5), 1);
+        due("triangle", withLines(34, 45, 35).is(5), 0);
+        FewLooks x = new FewLooks();
+        due("is(6)", x.is(6), FewLooks.BAD);
+        for (int bad : FAR_OUT) {
+            due("is(" + bad + ")", x.is(bad), FewLooks.BAD);
+        }
+    }
+
+    private static void distance() {
+        due("falling", withRow(3, 2, 1, 0).distance(0), 3);
+        due("saw", withRow(1, 0, 2, 0, 3, 0).distance(0), 3);
+        due("two unlike pairs", withRow(0, 1, 2, 3).distance(1), 2);
+        due("odd sum", withRow(1, 1, 1).distance(2), 1);
+        due("even sum", withRow(1, 1, 2).distance(2), 0);
+        due("round by none", withRow(0, 1, 1, 0).distance(3), 2);
+        due("round but for one", withRow(0, 0, 1, 0, 0, 2).distance(3), 1);
+        due("round of seven", withRow(0, 1, 2, 3, 0, 1, 2).distance(3), 5);
+        due("one bit", withBits(0).distance(4), 1);
+        due("both of two bits", withBits(3, 7).distance(4), 2);
+        due("all bits", withBits(0, 1, 2, 3, 4, 5, 6, 7).distance(4), 4);
+        due("two triangles", withLines(1, 12, 20, 34, 45, 53).distance(5), 2);
+        due("four all joined", withLines(1, 2, 3, 12, 13, 23).distance(5), 2);
+        FewLooks x = new FewLooks();
+        due("distance(6)", x.distance(6), FewLooks.BAD);
+        for (int bad : FAR_OUT) {
+            due("distance(" + bad + ")", x.distance(bad), FewLooks.BAD);
+        }
+    }
+
+    private static void nearest() {
+        due("rising from 3210", nearestRow(withRow(3, 2, 1, 0), 0), 0);
+        due("rising from 102", nearestRow(withRow(1, 0, 2), 0), 2);
+        due("rising from 2301", nearestRow(withRow(2, 3, 0, 1), 0), 1);
+        due("mirrored from 201", nearestRow(withRow(2, 0, 1), 1), 101);
+        due("even from 0201", nearestRow(withRow(0, 2, 0, 1), 2), 101);
+        due("even from 03", nearestRow(withRow(0, 3), 2), 0);
+        due("even from 12", nearestRow(withRow(1, 2), 2), 2);
+        due("even from 22", nearestRow(withRow(2, 2), 2), 22);
+        due("round from 2112", nearestRow(withRow(2, 1, 1, 2), 3), 1111);
+        due("round from 3031", nearestRow(withRow(3, 0, 3, 1), 3), 3030);
+        due("round from 111011", nearestRow(withRow(1, 1, 1, 0, 1, 1), 3), 11011);
+        due("c of all bits", withBits(0, 1, 2, 3, 4, 5, 6, 7).nearest(4, 0), 1);
+        due("c of bits 3, 7", withBits(3, 7).nearest(4, 0), 0);
+        due("colours of a triangle", withLines(1, 12, 20).nearest(5, 0), 2);
+        due("colours of line 0 5", withLines(5).nearest(5, 0), 32);
+        FewLooks x = withRow(0, 1, 0);
+        due("place 3 of three", x.nearest(0, 3), FewLooks.BAD);
+        due("place -1", x.nearest(3, -1), FewLooks.BAD);
+        due("c at 1", x.nearest(4, 1), FewLooks.BAD);
+        due("colours at -1", x.nearest(5, -1), FewLooks.BAD);
+        due("nearest(6, 0)", x.nearest(6, 0), FewLooks.BAD);
+        for (int bad : FAR_OUT) {
+            due("nearest(" + bad + ", 0)", x.nearest(bad, 0), FewLooks.BAD);
+            due("nearest(0, " + bad + ")", x.nearest(0, bad), FewLooks.BAD);
+        }
+        due("nearest changes nothing", rowOf(x), 10);
+    }
+
+    private static void mend() {
+        FewLooks x = withRow(1, 1, 1, 0, 1, 1);
+        due("mend(6)", x.mend(6), FewLooks.BAD);
+        for (int bad : FAR_OUT) {
+            due("mend(" + bad + ")", x.mend(bad), FewLooks.BAD);
+        }
+        due("row after refused mend", rowOf(x), 111011);
+        due("mend(3)", x.mend(3), 1);
+        due("row after mend(3)", rowOf(x), 11011);
+        due("N after mend(3)", x.count(0), 6);
+        due("mend(0)", x.mend(0), 1);
+        due("row after mend(0)", rowOf(x), 11111);
+        FewLooks t = withBits(0, 1, 2, 3, 4, 5, 6, 7);
+        due("mend(4)", t.mend(4), 4);
+        due("bits after mend(4)", bitsOf(t), 1010101);
+        FewLooks n = withLines(1, 2, 3, 12, 13, 23);
+        due("colours of four", n.nearest(5, 0), 6);
+        due("mend(5)", n.mend(5), 2);
+        due("line 0 3 is gone", n.line(0, 3, false), 0);
+        due("line 1 2 is gone", n.line(1, 2, false), 0);
+        due("lines left", n.count(2), 4);
+        due("mend(5) again", n.mend(5), 0);
+        due("lines left still", n.count(2), 4);
+    }
+
+    private static void pass() {
+        dueRatio("pass of 3210", withRow(3, 2, 1, 0), 0, 0, 1);
+        dueRatio("pass of 102", withRow(1, 0, 2), 0, 2, 3);
+        dueRatio("pass of 11", withRow(1, 1), 0, 1, 1);
+        dueRatio("mirrored 201", withRow(2, 0, 1), 1, 1, 3);
+        dueRatio("mirrored 0112", withRow(0, 1, 1, 2), 1, 1, 2);
+        dueRatio("even 11", withRow(1, 1), 2, 1, 1);
+        dueRatio("even 12", withRow(1, 2), 2, 0, 1);
+        dueRatio("round 0101", withRow(0, 1, 0, 1), 3, 1, 3);
+        dueRatio("table of bit 1", withBits(1), 4, 23, 32);
+        FewLooks x = withLines(1, 12, 20);
+        dueRatio("triangle, k 3", x, 5, 19, 20);
+        x.draw(4);
+        dueRatio("triangle, k 4", x, 5, 4, 5);
+        x.draw(2);
+        dueRatio("triangle, k 2", x, 5, 1, 1);
+        due("pass(6, 0)", x.pass(6, 0), -2);
+        due("pass(0, 2)", x.pass(0, 2), -2);
+        for (int bad : FAR_OUT) {
+            due("pass(" + bad + ", 0)", x.pass(bad, 0), -2);
+            due("pass(0, " + bad + ")", x.pass(0, bad), -2);
+        }
+    }
+
+    private static void repeats() {
+        FewLooks x = withLines(1, 12, 20);
+        x.draw(4);
+        due("repeats 1/5", x.repeats(5, 1, 5), 1);
+        due("repeats 36/100", x.repeats(5, 36, 100), 2);
+        due("repeats 37/100", x.repeats(5, 37, 100), 3);
+        due("repeats 1/2", x.repeats(5, 1, 2), 4);
+        due("repeats 86/100", x.repeats(5, 86, 100), 9);
+        due("repeats 87/100", x.repeats(5, 87, 100), FewLooks.NONE);
+        FewLooks t = withBits(1);
+        due("repeats 94/100", t.repeats(4, 94, 100), 9);
+        due("repeats 95/100", t.repeats(4, 95, 100), FewLooks.NONE);
+        due("never fails", t.repeats(0, 1, 100), FewLooks.NONE);
+        due("always fails", withRow(1, 0).repeats(0, 100, 100), 1);
+        due("u 0", x.repeats(0, 0, 5), FewLooks.BAD);
+        due("u above v", x.repeats(0, 6, 5), FewLooks.BAD);
+        due("v 0", x.repeats(0, 1, 0), FewLooks.BAD);
+        due("v 101", x.repeats(0, 1, 101), FewLooks.BAD);
+        due("repeats(6, 1, 2)", x.repeats(6, 1, 2), FewLooks.BAD);
+        for (int bad : FAR_OUT) {
+            due("repeats(" + bad + ", 1, 2)", x.repeats(bad, 1, 2), FewLooks.BAD);
+            due("repeats(0, " + bad + ", 2)", x.repeats(0, bad, 2), FewLooks.BAD);
+            due("repeats(0, 1, " + bad + ")", x.repeats(0, 1, bad), FewLooks.BAD);
+        }
+    }
+
+    private static void dueWorst(FewLooks x, int kind, int d, long row, long above, long below) {
+        String call = "worst of " + x.count(0) + ", kind " + kind + ", d " + d;
+        long got = 0;
+        for (int i = 0; i < x.count(0); i++) {
+            got = got * 10 + x.worst(kind, d, i, 0);
+        }
+        due(call, got, row);
+        due(call + ", above", x.worst(kind, d, 0, 1), above);
+        due(call + ", below", x.worst(kind, d, 0, 2), below);
+    }
+
+    private static void worst() {
+        FewLooks x = withRow(3, 2);
+        dueWorst(x, 2, 1, 1, 0, 1);
+        dueWorst(x, 1, 0, 0, 1, 1);
+        due("none mirrored", x.worst(1, 2, 1, 0), FewLooks.NONE);
+        due("row after worst", rowOf(x), 32);
+        x.places(4);
+        dueWorst(x, 0, 1, 10, 5, 6);
+        dueWorst(x, 0, 2, 1010, 1, 2);
+        due("none rising", x.worst(0, 3, 0, 2), FewLooks.NONE);
+        dueWorst(x, 1, 1, 1, 1, 2);
+        dueWorst(x, 1, 2, 11, 0, 1);
+        dueWorst(x, 3, 1, 1, 1, 2);
+        dueWorst(x, 3, 2, 11, 1, 3);
+        x.places(5);
+        dueWorst(x, 3, 1, 1, 3, 5);
+        dueWorst(x, 3, 2, 11, 2, 5);
+        due("none round", x.worst(3, 3, 0, 1), FewLooks.NONE);
+        due("none at 8", x.worst(3, 8, 0, 1), FewLooks.NONE);
+        due("worst(4, ..)", x.worst(4, 0, 0, 0), FewLooks.BAD);
+        due("d 9", x.worst(0, 9, 0, 0), FewLooks.BAD);
+        due("place 5 of five", x.worst(0, 0, 5, 0), FewLooks.BAD);
+        due("place 5 of none", x.worst(0, 8, 5, 0), FewLooks.BAD);
+        due("i 1, what 1", x.worst(0, 0, 1, 1), FewLooks.BAD);
+        due("i 1, what 2", x.worst(0, 0, 1, 2), FewLooks.BAD);
+        due("what 3", x.worst(0, 0, 0, 3), FewLooks.BAD);
+        for (int bad : FAR_OUT) {
+            due("kind " + bad, x.worst(bad, 0, 0, 0), FewLooks.BAD);
+            due("d " + bad, x.worst(0, bad, 0, 0), FewLooks.BAD);
+            due("i " + bad, x.worst(0, 0, bad, 0), FewLooks.BAD);
+            due("what " + bad, x.worst(0, 0, 0, bad), FewLooks.BAD);
+        }
+    }
+
+    private static void mended() {
+        FewLooks x = withBits(1);
+        due("mended(1, 1)", x.mended(1, 1), 2);
+        due("mended(1, 0)", x.mended(1, 0), 6);
+        due("mended(0, 0)", x.mended(0, 0), 8);
+        due("mended(0, 1)", x.mended(0, 1), 0);
+        due("mended(2, 1)", x.mended(2, 1), 2);
+        x.linear(5);
+        due("mended(7, 0)", x.mended(7, 0), 8);
+        due("mended(4, 1)", x.mended(4, 1), 8);
+        due("mended(8, 0)", x.mended(8, 0), FewLooks.BAD);
+        due("mended(0, 2)", x.mended(0, 2), FewLooks.BAD);
+        for (int bad : FAR_OUT) {
+            due("mended(" + bad + ", 0)", x.mended(bad, 0), FewLooks.BAD);
+            due("mended(0, " + bad + ")", x.mended(0, bad), FewLooks.BAD);
+        }
+    }
+
+    private static void shows() {
+        FewLooks x = withRow(1, 0, 1);
+        due("shows(0, 0, 1)", x.shows(0, 0, 1), 1);
+        due("shows(0, 0, 2)", x.shows(0, 0, 2), 0);
+        due("shows(0, 1, 0)", x.shows(0, 1, 0), FewLooks.BAD);
+        due("shows(0, 1, 1)", x.shows(0, 1, 1), FewLooks.BAD);
+        due("shows(0, 2, 3)", x.shows(0, 2, 3), FewLooks.BAD);
+        FewLooks t = withBits(1);
+        due("shows(4, 1, 2)", t.shows(4, 1, 2), 1);
+        due("shows(4, 1, 1)", t.shows(4, 1, 1), 0);
+        due("shows(4, 2, 3)", t.shows(4, 2, 3), 1);
+        due("shows(4, 7, 7)", t.shows(4, 7, 7), 0);
+        due("shows(4, 0, 8)", t.shows(4, 0, 8), FewLooks.BAD);
+        FewLooks n = withLines(1, 12, 20);
+        due("shows(5, 7, 0)", n.shows(5, 7, 0), 1);
+        due("shows(5, 56, 0)", n.shows(5, 56, 0), 0);
+        due("shows(5, 7, 1)", n.shows(5, 7, 1), FewLooks.BAD);
+        due("shows(5, 15, 0)", n.shows(5, 15, 0), FewLooks.BAD);
+        due("shows(5, 67, 0)", n.shows(5, 67, 0), FewLooks.BAD);
+        due("shows(5, three bits afar)", n.shows(5, 0x80000003, 0), FewLooks.BAD);
+        for (int other : new int[] {1, 2, 3, 6}) {
+            due("shows(" + other + ", 0, 1)", n.shows(other, 0, 1), FewLooks.BAD);
+        }
+        for (int bad : FAR_OUT) {
+            due("shows(" + bad + ", 0, 1)", n.shows(bad, 0, 1), FewLooks.BAD);
+            due("shows(0, 0, " + bad + ")", n.shows(0, 0, bad), FewLooks.BAD);
+            due("shows(0, " + bad + ", 7)", n.shows(0, bad, 7), FewLooks.BAD);
+            due("shows(4, " + bad + ", 0)", n.shows(4, bad, 0), FewLooks.BAD);
+            due("shows(4, 0, " + bad + ")", n.shows(4, 0, bad), FewLooks.BAD);
+            due("shows(5, 7, " + bad + ")", n.shows(5, 7, bad), FewLooks.BAD);
+        }
+    }
+
+    private static void witness() {
+        due("witness of 0212", withRow(0, 2, 1, 2).witness(0), 102);
+        due("witness of 1000", withRow(1, 0, 0, 0).witness(0), 1);
+        due("witness of 00000010", withRow(0, 0, 0, 0, 0, 0, 1, 0).witness(0), 607);
+        due("witness of 0123", withRow(0, 1, 2, 3).witness(0), FewLooks.NONE);
+        due("witness of bit 0", withBits(0).witness(4), 0);
+        due("witness of bit 1", withBits(1).witness(4), 102);
+        due("witness of bit 7", withBits(7).witness(4), 106);
+        due("witness of no bits", withBits().witness(4), FewLooks.NONE);
+        FewLooks n = withLines(34, 45, 53);
+        due("witness of a triangle, k 3", n.witness(5), 56);
+        n.draw(4);
+        due("witness of a triangle, k 4", n.witness(5), 57);
+        n.draw(2);
+        due("witness of a triangle, k 2", n.witness(5), FewLooks.NONE);
+        for (int other : new int[] {1, 2, 3, 6}) {
+            due("witness(" + other + ")", n.witness(other), FewLooks.BAD);
+        }
+        for (int bad : FAR_OUT) {
+            due("witness(" + bad + ")", n.witness(bad), FewLooks.BAD);
+        }
+    }
+
+    private static void count() {
+        FewLooks x = withRow(3, 2, 1);
+        x.draw(5);
+        x.line(0, 1, true);
+        x.line(5, 4, true);
+        x.bit(6, 1);
+        x.bit(0, 1);
+        x.bit(3, 1);
+        due("count(0)", x.count(0), 3);
+        due("count(1)", x.count(1), 5);
+        due("count(2)", x.count(2), 2);
+        due("count(3)", x.count(3), 3);
+        due("count(4)", x.count(4), 6);
+        due("count(5)", x.count(5), FewLooks.BAD);
+        for (int bad : FAR_OUT) {
+            due("count(" + bad + ")", x.count(bad), FewLooks.BAD);
+        }
+    }
+
+    public static void main(String[] args) {
+        newObject();
+        places();
+        digit();
+        bit();
+        linear();
+        line();
+        draw();
+        is();
+        distance();
+        nearest();
+        mend();
+        pass();
+        repeats();
+        worst();
+        mended();
+        shows();
+        witness();
+        count();
+        System.out.println(wrong == 0 ? "all promises are kept" : wrong + " answers are not as due");
+        if (wrong != 0) {
+            System.exit(1);
+        }
+    }
+}
