@@ -545,13 +545,15 @@ public final class FewLooks {
             }
         }
 
+        /** Of the digits at a place and those whole periods behind it; the least of several. */
         private static int commonest(Row from, int first, int period) {
             int best = 0;
             int most = 0;
             for (int v = 0; v < DIGITS; v++) {
                 int times = 0;
-                for (int i = first; i < from.size; i += period) {
-                    if (from.digits[i] == v) {
+                for (int turn = 0; turn < MOST_PLACES; turn++) {
+                    int i = first + turn * period;
+                    if (i < from.size && from.digits[i] == v) {
                         times++;
                     }
                 }
