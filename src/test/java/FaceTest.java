@@ -9,21 +9,13 @@ import java.util.Set;
 import java.util.TreeSet;
 
 /** The class has the document's face and no other, and the source keeps to rules that a text search can see. */
-public final class FaceTest {
+public final class FaceTest extends Checks {
     private static final Set<String> METHODS = Set.of(
             "int places(int)", "int digit(int,int)", "int bit(int,int)", "int linear(int)",
             "int line(int,int,boolean)", "int draw(int)", "int is(int)", "int distance(int)",
             "int nearest(int,int)", "int mend(int)", "long pass(int,int)", "int repeats(int,int,int)",
             "int worst(int,int,int,int)", "int mended(int,int)", "int shows(int,int,int)",
             "int witness(int)", "int count(int)");
-    private static int wrong = 0;
-
-    private static void due(String what, Object got, Object want) {
-        if (!got.equals(want)) {
-            wrong++;
-            System.out.println(what + " is " + got + ", due is " + want);
-        }
-    }
 
     private static String face(Method method) {
         StringBuilder text = new StringBuilder(method.getReturnType().getName()).append(' ').append(method.getName()).append('(');
@@ -91,9 +83,6 @@ public final class FaceTest {
         constantsAndConstructor();
         members();
         words();
-        System.out.println(wrong == 0 ? "the face is as due" : wrong + " things are not as due");
-        if (wrong != 0) {
-            System.exit(1);
-        }
+        end("the face is as due");
     }
 }

@@ -6,15 +6,8 @@ import java.util.List;
  * Compares the class with the document's words carried out by trying everything:
  * all small rows, all tables, all nets, and long runs of drawn calls.
  */
-public final class OracleTest {
+public final class OracleTest extends Checks {
     private static final int CALLS = 512;
-    private static int wrong = 0;
-
-    private static void due(String call, long got, long want) {
-        if (got != want && ++wrong <= 20) {
-            System.out.println(call + " answered " + got + ", due is " + want);
-        }
-    }
 
     /** Numbers that look drawn and are the same in every run. */
     private static final class Draws {
@@ -658,9 +651,6 @@ public final class OracleTest {
         tables();
         nets();
         runs();
-        System.out.println(wrong == 0 ? "all answers are as the oracle's" : wrong + " answers are not as due");
-        if (wrong != 0) {
-            System.exit(1);
-        }
+        end("all answers are as the oracle's");
     }
 }
