@@ -202,11 +202,17 @@ public final class BoundaryTest extends Checks {
         due("the last c but for a bit", withBits(0, 1, 2, 4, 7).nearest(4, 0), 7);
     }
 
+    private static void allSixtyFourDrawn() {
+        sentence("The TESTER draws x and y (0 .. 7 each, alike likely)");
+        // of bit 0 alone the 22 pairs with x 0, y 0 or x and y alike do not pass
+        duePass("x 0, y 0, x and y alike", withBits(0), 4, (64 - 22) / 2, 64 / 2);
+        due("x 7, y 7, the last", withBits(0).shows(4, 7, 7), 1);
+    }
+
     private static void noneOrTwoPass() {
         sentence("it passes, if the bits at x, y and at x xor y come to 0 or 2 together");
         duePass("empty, 0 each", new FewLooks(), 4, 1, 1);
         duePass("full, 3 each", withAllBits(), 4, 0, 1);
-        duePass("bit 0", withBits(0), 4, 21, 32);
         duePass("bit 7", withBits(7), 4, 23, 32);
         FewLooks x = withBits(0, 1, 2);
         due("1 at x alone", x.shows(4, 1, 4), 1);
@@ -410,6 +416,12 @@ public final class BoundaryTest extends Checks {
         due("nine places", x.places(9), BAD);
         due("row after what is refused", rowOf(x), 20000000);
         due("N after what is refused", x.count(0), 8);
+        FewLooks falling = withRow(3, 3, 2, 2, 1, 1, 0, 0);
+        due("eight places fall", falling.distance(0), 6);
+        falling.places(2);
+        for (int kind = 0; kind < 4; kind++) {
+            due("two places are of kind " + kind, falling.distance(kind), 0);
+        }
     }
 
     private static void digit() {
@@ -769,6 +781,7 @@ public final class BoundaryTest extends Checks {
         eightBitsAtFirstNought();
         eightLinearTables();
         leastC();
+        allSixtyFourDrawn();
         noneOrTwoPass();
         mendedByAllEight();
     }

@@ -1,4 +1,4 @@
-/** Each promise with answers worked out by hand: ordinary inputs, the edges, and wrong inputs. */
+/** Each promise by ordinary inputs, with answers worked out by hand; BoundaryTest and RefusalTest have edges and wrong inputs. */
 public final class PromiseTest extends Checks {
     private static void newObject() {
         FewLooks x = new FewLooks();
@@ -17,19 +17,6 @@ public final class PromiseTest extends Checks {
         due("places(5)", x.places(5), 8);
         due("places(2)", x.places(2), 5);
         due("places(8)", x.places(8), 2);
-        for (int i = 0; i < 8; i++) {
-            x.digit(i, 3);
-        }
-        for (int n : new int[] {1, 9, 0}) {
-            due("places(" + n + ")", x.places(n), FewLooks.BAD);
-        }
-        for (int n : FAR_OUT) {
-            due("places(" + n + ")", x.places(n), FewLooks.BAD);
-        }
-        due("row after refused places", rowOf(x), 33333333);
-        due("N after refused places", x.count(0), 8);
-        due("places(8) again", x.places(8), 8);
-        due("row after places(8)", rowOf(x), 0);
         x.digit(7, 2);
         x.places(3);
         x.places(8);
@@ -42,16 +29,9 @@ public final class PromiseTest extends Checks {
         due("digit(0, 1)", x.digit(0, 1), 3);
         due("digit(7, 2)", x.digit(7, 2), 0);
         due("digit(7, 0)", x.digit(7, 0), 2);
-        due("digit(8, 0)", x.digit(8, 0), FewLooks.BAD);
-        due("digit(0, 4)", x.digit(0, 4), FewLooks.BAD);
-        for (int bad : FAR_OUT) {
-            due("digit(" + bad + ", 0)", x.digit(bad, 0), FewLooks.BAD);
-            due("digit(0, " + bad + ")", x.digit(0, bad), FewLooks.BAD);
-        }
         due("row after digits", rowOf(x), 10000000);
         x.places(3);
         due("digit(2, 1) of three", x.digit(2, 1), 0);
-        due("digit(3, 1) of three", x.digit(3, 1), FewLooks.BAD);
         due("row of three", rowOf(x), 1);
     }
 
@@ -61,12 +41,6 @@ public final class PromiseTest extends Checks {
         due("bit(7, 1)", x.bit(7, 1), 0);
         due("bit(7, 1) again", x.bit(7, 1), 1);
         due("bit(0, 0)", x.bit(0, 0), 1);
-        due("bit(8, 0)", x.bit(8, 0), FewLooks.BAD);
-        due("bit(7, 2)", x.bit(7, 2), FewLooks.BAD);
-        for (int bad : FAR_OUT) {
-            due("bit(" + bad + ", 1)", x.bit(bad, 1), FewLooks.BAD);
-            due("bit(1, " + bad + ")", x.bit(1, bad), FewLooks.BAD);
-        }
         due("bits", bitsOf(x), 1);
     }
 
@@ -74,15 +48,8 @@ public final class PromiseTest extends Checks {
         FewLooks x = withBits(0, 7);
         due("linear(3)", x.linear(3), 1);
         due("bits of 3", bitsOf(x), 1100110);
-        due("linear(8)", x.linear(8), FewLooks.BAD);
-        for (int bad : FAR_OUT) {
-            due("linear(" + bad + ")", x.linear(bad), FewLooks.BAD);
-        }
-        due("bits of 3 still", bitsOf(x), 1100110);
-        due("linear(7)", x.linear(7), 1);
-        due("bits of 7", bitsOf(x), 1101001);
-        due("linear(0)", x.linear(0), 1);
-        due("bits of 0", bitsOf(x), 0);
+        due("linear(4)", x.linear(4), 1);
+        due("bits of 4", bitsOf(x), 1111);
     }
 
     private static void line() {
@@ -93,15 +60,6 @@ public final class PromiseTest extends Checks {
         due("line(4, 1, false)", x.line(4, 1, false), 1);
         due("line(1, 4, false)", x.line(1, 4, false), 0);
         due("line(0, 5, true)", x.line(0, 5, true), 0);
-        for (int a = 0; a < 6; a++) {
-            due("line of one and itself", x.line(a, a, true), FewLooks.BAD);
-        }
-        due("line(6, 0)", x.line(6, 0, true), FewLooks.BAD);
-        due("line(0, 6)", x.line(0, 6, true), FewLooks.BAD);
-        for (int bad : FAR_OUT) {
-            due("line(" + bad + ", 0)", x.line(bad, 0, true), FewLooks.BAD);
-            due("line(0, " + bad + ")", x.line(0, bad, false), FewLooks.BAD);
-        }
         due("line 0 5 alone", linesOf(x), "05");
     }
 
@@ -109,11 +67,6 @@ public final class PromiseTest extends Checks {
         FewLooks x = new FewLooks();
         due("draw(1)", x.draw(1), 3);
         due("draw(6)", x.draw(6), 1);
-        due("draw(0)", x.draw(0), FewLooks.BAD);
-        due("draw(7)", x.draw(7), FewLooks.BAD);
-        for (int bad : FAR_OUT) {
-            due("draw(" + bad + ")", x.draw(bad), FewLooks.BAD);
-        }
         due("draw(3)", x.draw(3), 6);
     }
 
@@ -134,11 +87,6 @@ public final class PromiseTest extends Checks {
         due("all ones is not linear", withAllBits().is(4), 0);
         due("two-coloured", withLines(1, 12, 23, 30).is(5), 1);
         due("triangle", withLines(34, 45, 35).is(5), 0);
-        FewLooks x = new FewLooks();
-        due("is(6)", x.is(6), FewLooks.BAD);
-        for (int bad : FAR_OUT) {
-            due("is(" + bad + ")", x.is(bad), FewLooks.BAD);
-        }
     }
 
     private static void distance() {
@@ -155,11 +103,6 @@ public final class PromiseTest extends Checks {
         due("all bits", withAllBits().distance(4), 4);
         due("two triangles", withLines(1, 12, 20, 34, 45, 53).distance(5), 2);
         due("four all joined", withLines(1, 2, 3, 12, 13, 23).distance(5), 2);
-        FewLooks x = new FewLooks();
-        due("distance(6)", x.distance(6), FewLooks.BAD);
-        for (int bad : FAR_OUT) {
-            due("distance(" + bad + ")", x.distance(bad), FewLooks.BAD);
-        }
     }
 
     private static void nearest() {
@@ -179,25 +122,12 @@ public final class PromiseTest extends Checks {
         due("colours of a triangle", withLines(1, 12, 20).nearest(5, 0), 2);
         due("colours of line 0 5", withLines(5).nearest(5, 0), 32);
         FewLooks x = withRow(0, 1, 0);
-        due("place 3 of three", x.nearest(0, 3), FewLooks.BAD);
-        due("place -1", x.nearest(3, -1), FewLooks.BAD);
-        due("c at 1", x.nearest(4, 1), FewLooks.BAD);
-        due("colours at -1", x.nearest(5, -1), FewLooks.BAD);
-        due("nearest(6, 0)", x.nearest(6, 0), FewLooks.BAD);
-        for (int bad : FAR_OUT) {
-            due("nearest(" + bad + ", 0)", x.nearest(bad, 0), FewLooks.BAD);
-            due("nearest(0, " + bad + ")", x.nearest(0, bad), FewLooks.BAD);
-        }
+        due("rising from 010", nearestRow(x, 0), 0);
         due("nearest changes nothing", rowOf(x), 10);
     }
 
     private static void mend() {
         FewLooks x = withRow(1, 1, 1, 0, 1, 1);
-        due("mend(6)", x.mend(6), FewLooks.BAD);
-        for (int bad : FAR_OUT) {
-            due("mend(" + bad + ")", x.mend(bad), FewLooks.BAD);
-        }
-        due("row after refused mend", rowOf(x), 111011);
         due("mend(3)", x.mend(3), 1);
         due("row after mend(3)", rowOf(x), 11011);
         due("N after mend(3)", x.count(0), 6);
@@ -232,12 +162,6 @@ public final class PromiseTest extends Checks {
         duePass("triangle, k 4", x, 5, 4, 5);
         x.draw(2);
         duePass("triangle, k 2", x, 5, 1, 1);
-        due("pass(6, 0)", x.pass(6, 0), -2);
-        due("pass(0, 2)", x.pass(0, 2), -2);
-        for (int bad : FAR_OUT) {
-            due("pass(" + bad + ", 0)", x.pass(bad, 0), -2);
-            due("pass(0, " + bad + ")", x.pass(0, bad), -2);
-        }
     }
 
     private static void repeats() {
@@ -254,16 +178,6 @@ public final class PromiseTest extends Checks {
         due("repeats 95/100", t.repeats(4, 95, 100), FewLooks.NONE);
         due("never fails", t.repeats(0, 1, 100), FewLooks.NONE);
         due("always fails", withRow(1, 0).repeats(0, 100, 100), 1);
-        due("u 0", x.repeats(0, 0, 5), FewLooks.BAD);
-        due("u above v", x.repeats(0, 6, 5), FewLooks.BAD);
-        due("v 0", x.repeats(0, 1, 0), FewLooks.BAD);
-        due("v 101", x.repeats(0, 1, 101), FewLooks.BAD);
-        due("repeats(6, 1, 2)", x.repeats(6, 1, 2), FewLooks.BAD);
-        for (int bad : FAR_OUT) {
-            due("repeats(" + bad + ", 1, 2)", x.repeats(bad, 1, 2), FewLooks.BAD);
-            due("repeats(0, " + bad + ", 2)", x.repeats(0, bad, 2), FewLooks.BAD);
-            due("repeats(0, 1, " + bad + ")", x.repeats(0, 1, bad), FewLooks.BAD);
-        }
     }
 
     private static void worst() {
@@ -285,19 +199,6 @@ public final class PromiseTest extends Checks {
         dueWorst(x, 3, 2, 11, 2, 5);
         due("none round", x.worst(3, 3, 0, 1), FewLooks.NONE);
         due("none at 8", x.worst(3, 8, 0, 1), FewLooks.NONE);
-        due("worst(4, ..)", x.worst(4, 0, 0, 0), FewLooks.BAD);
-        due("d 9", x.worst(0, 9, 0, 0), FewLooks.BAD);
-        due("place 5 of five", x.worst(0, 0, 5, 0), FewLooks.BAD);
-        due("place 5 of none", x.worst(0, 8, 5, 0), FewLooks.BAD);
-        due("i 1, what 1", x.worst(0, 0, 1, 1), FewLooks.BAD);
-        due("i 1, what 2", x.worst(0, 0, 1, 2), FewLooks.BAD);
-        due("what 3", x.worst(0, 0, 0, 3), FewLooks.BAD);
-        for (int bad : FAR_OUT) {
-            due("kind " + bad, x.worst(bad, 0, 0, 0), FewLooks.BAD);
-            due("d " + bad, x.worst(0, bad, 0, 0), FewLooks.BAD);
-            due("i " + bad, x.worst(0, 0, bad, 0), FewLooks.BAD);
-            due("what " + bad, x.worst(0, 0, 0, bad), FewLooks.BAD);
-        }
     }
 
     private static void mended() {
@@ -310,45 +211,20 @@ public final class PromiseTest extends Checks {
         x.linear(5);
         due("mended(7, 0)", x.mended(7, 0), 8);
         due("mended(4, 1)", x.mended(4, 1), 8);
-        due("mended(8, 0)", x.mended(8, 0), FewLooks.BAD);
-        due("mended(0, 2)", x.mended(0, 2), FewLooks.BAD);
-        for (int bad : FAR_OUT) {
-            due("mended(" + bad + ", 0)", x.mended(bad, 0), FewLooks.BAD);
-            due("mended(0, " + bad + ")", x.mended(0, bad), FewLooks.BAD);
-        }
     }
 
     private static void shows() {
         FewLooks x = withRow(1, 0, 1);
         due("shows(0, 0, 1)", x.shows(0, 0, 1), 1);
         due("shows(0, 0, 2)", x.shows(0, 0, 2), 0);
-        due("shows(0, 1, 0)", x.shows(0, 1, 0), FewLooks.BAD);
-        due("shows(0, 1, 1)", x.shows(0, 1, 1), FewLooks.BAD);
-        due("shows(0, 2, 3)", x.shows(0, 2, 3), FewLooks.BAD);
         FewLooks t = withBits(1);
         due("shows(4, 1, 2)", t.shows(4, 1, 2), 1);
         due("shows(4, 1, 1)", t.shows(4, 1, 1), 0);
         due("shows(4, 2, 3)", t.shows(4, 2, 3), 1);
         due("shows(4, 7, 7)", t.shows(4, 7, 7), 0);
-        due("shows(4, 0, 8)", t.shows(4, 0, 8), FewLooks.BAD);
         FewLooks n = withLines(1, 12, 20);
         due("shows(5, 7, 0)", n.shows(5, 7, 0), 1);
         due("shows(5, 56, 0)", n.shows(5, 56, 0), 0);
-        due("shows(5, 7, 1)", n.shows(5, 7, 1), FewLooks.BAD);
-        due("shows(5, 15, 0)", n.shows(5, 15, 0), FewLooks.BAD);
-        due("shows(5, 67, 0)", n.shows(5, 67, 0), FewLooks.BAD);
-        due("shows(5, three bits afar)", n.shows(5, 0x80000003, 0), FewLooks.BAD);
-        for (int other : new int[] {1, 2, 3, 6}) {
-            due("shows(" + other + ", 0, 1)", n.shows(other, 0, 1), FewLooks.BAD);
-        }
-        for (int bad : FAR_OUT) {
-            due("shows(" + bad + ", 0, 1)", n.shows(bad, 0, 1), FewLooks.BAD);
-            due("shows(0, 0, " + bad + ")", n.shows(0, 0, bad), FewLooks.BAD);
-            due("shows(0, " + bad + ", 7)", n.shows(0, bad, 7), FewLooks.BAD);
-            due("shows(4, " + bad + ", 0)", n.shows(4, bad, 0), FewLooks.BAD);
-            due("shows(4, 0, " + bad + ")", n.shows(4, 0, bad), FewLooks.BAD);
-            due("shows(5, 7, " + bad + ")", n.shows(5, 7, bad), FewLooks.BAD);
-        }
     }
 
     private static void witness() {
@@ -366,12 +242,6 @@ public final class PromiseTest extends Checks {
         due("witness of a triangle, k 4", n.witness(5), 57);
         n.draw(2);
         due("witness of a triangle, k 2", n.witness(5), FewLooks.NONE);
-        for (int other : new int[] {1, 2, 3, 6}) {
-            due("witness(" + other + ")", n.witness(other), FewLooks.BAD);
-        }
-        for (int bad : FAR_OUT) {
-            due("witness(" + bad + ")", n.witness(bad), FewLooks.BAD);
-        }
     }
 
     private static void count() {
@@ -387,10 +257,6 @@ public final class PromiseTest extends Checks {
         due("count(2)", x.count(2), 2);
         due("count(3)", x.count(3), 3);
         due("count(4)", x.count(4), 6);
-        due("count(5)", x.count(5), FewLooks.BAD);
-        for (int bad : FAR_OUT) {
-            due("count(" + bad + ")", x.count(bad), FewLooks.BAD);
-        }
     }
 
     public static void main(String[] args) {

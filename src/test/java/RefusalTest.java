@@ -63,7 +63,11 @@ public final class RefusalTest extends Checks {
                 rest /= VALUES.length;
             }
             FewLooks x = given();
-            boolean refused = call.on(x, args) == FewLooks.BAD;
+            long answer = call.on(x, args);
+            boolean refused = answer == FewLooks.BAD;
+            if (answer == FewLooks.NOT) {
+                due(told(name, args) + ": no promise tells of a NOT", answer, FewLooks.BAD);
+            }
             if (refused == bounds.hold(args)) {
                 due(told(name, args) + ": refused", refused, !refused);
             }

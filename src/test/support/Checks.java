@@ -1,6 +1,5 @@
 /** What the tests share: answers that are due, and objects given and read in one go. */
 abstract class Checks {
-    static final int[] FAR_OUT = {Integer.MIN_VALUE, -1000, -1, 1000, Integer.MAX_VALUE};
     private static final int MOST_SHOWN = 40;
     private static int wrong = 0;
     private static String about = "";
