@@ -1,10 +1,9 @@
 import java.math.BigInteger;
-import java.util.ArrayList;
-import java.util.List;
+import java.util.Arrays;
 
 /**
  * Compares the class with the document's words carried out by trying everything:
- * all small rows, all tables, all nets, and long runs of drawn calls.
+ * all rows, all tables, all nets, and long runs of drawn calls.
  */
 public final class OracleTest extends Checks {
     private static final int CALLS = 512;
@@ -71,25 +70,12 @@ public final class OracleTest extends Checks {
         return all;
     }
 
-    private static final List<List<List<int[]>>> OF_KIND = new ArrayList<>();
-
-    private static List<int[]> rowsOf(int kind, int n) {
-        if (OF_KIND.isEmpty()) {
-            for (int k = 0; k < 4; k++) {
-                OF_KIND.add(new ArrayList<>());
-                for (int size = 0; size <= 8; size++) {
-                    List<int[]> rows = new ArrayList<>();
-                    for (int number = 0; size >= 2 && number < power(4, size); number++) {
-                        int[] row = rowOfNumber(number, size, 4);
-                        if (isOfKind(k, row)) {
-                            rows.add(row);
-                        }
-                    }
-                    OF_KIND.get(k).add(rows);
-                }
-            }
+    private static int numberOfRow(int[] row) {
+        int number = 0;
+        for (int digit : row) {
+            number = number * 4 + digit;
         }
-        return OF_KIND.get(kind).get(n);
+        return number;
     }
 
     private static int differing(int[] a, int[] b) {
@@ -100,17 +86,49 @@ public final class OracleTest extends Checks {
         return places;
     }
 
-    private static int[] nearestRow(int kind, int[] row) {
-        int[] best = null;
+    /** Of rows told by numbers in base four, so that each digit is two bits. */
+    private static int differing(int a, int b) {
+        int unlike = a ^ b;
+        return Integer.bitCount((unlike | unlike >> 1) & 0x5555);
+    }
+
+    private static int[] rowsOfKind(int kind, int n) {
+        int[] rows = new int[power(4, n)];
+        int found = 0;
+        for (int number = 0; number < rows.length; number++) {
+            if (isOfKind(kind, rowOfNumber(number, n, 4))) {
+                rows[found++] = number;
+            }
+        }
+        return Arrays.copyOf(rows, found);
+    }
+
+    private static int nearestNumber(int number, int[] rows) {
+        int best = 0;
         int fewest = 99;
-        for (int[] other : rowsOf(kind, row.length)) {
-            int places = differing(row, other);
+        for (int other : rows) {
+            int places = differing(number, other);
             if (places < fewest) {
                 fewest = places;
                 best = other;
             }
         }
         return best;
+    }
+
+    private static final int[][][] NEAREST = new int[4][9][];
+
+    private static int[] nearestRow(int kind, int[] row) {
+        int n = row.length;
+        if (NEAREST[kind][n] == null) {
+            int[] rows = rowsOfKind(kind, n);
+            int[] nearest = new int[power(4, n)];
+            for (int number = 0; number < nearest.length; number++) {
+                nearest[number] = nearestNumber(number, rows);
+            }
+            NEAREST[kind][n] = nearest;
+        }
+        return rowOfNumber(NEAREST[kind][n][numberOfRow(row)], n, 4);
     }
 
     private static long[] lowest(long above, long below) {
@@ -492,6 +510,15 @@ public final class OracleTest extends Checks {
     }
 
     private static void compareSubject(FewLooks x, Model m, int subject) {
+        compareKind(x, m, subject);
+        String name = "subject " + subject + " ";
+        for (int u : new int[] {1, 50, 75, 90, 99, 100}) {
+            due(name + "repeats", x.repeats(subject, u, 100), m.repeats(subject, u, 100));
+        }
+        due(name + "witness", x.witness(subject), m.witness(subject));
+    }
+
+    private static void compareKind(FewLooks x, Model m, int subject) {
         String name = "subject " + subject + " ";
         due(name + "is", x.is(subject), m.is(subject));
         due(name + "distance", x.distance(subject), m.distance(subject));
@@ -500,35 +527,22 @@ public final class OracleTest extends Checks {
         }
         due(name + "pass, above", x.pass(subject, 0), m.pass(subject, 0));
         due(name + "pass, below", x.pass(subject, 1), m.pass(subject, 1));
-        for (int u : new int[] {1, 50, 75, 90, 99, 100}) {
-            due(name + "repeats", x.repeats(subject, u, 100), m.repeats(subject, u, 100));
-        }
-        due(name + "witness", x.witness(subject), m.witness(subject));
-    }
-
-    private static void compareRow(int[] digits) {
-        FewLooks x = new FewLooks();
-        Model m = new Model();
-        due("places", x.places(digits.length), m.places(digits.length));
-        for (int i = 0; i < digits.length; i++) {
-            due("digit", x.digit(i, digits[i]), m.digit(i, digits[i]));
-        }
-        for (int kind = 0; kind < 4; kind++) {
-            compareSubject(x, m, kind);
-        }
     }
 
     private static void rows() {
-        for (int n = 2; n <= 5; n++) {
+        for (int n = 2; n <= 8; n++) {
             for (int number = 0; number < power(4, n); number++) {
-                compareRow(rowOfNumber(number, n, 4));
-            }
-        }
-        Draws draws = new Draws(11);
-        for (int n = 6; n <= 8; n++) {
-            for (int times = 0; times < 150; times++) {
-                compareRow(rowOfNumber(draws.between(0, power(4, n) - 1), n, 4));
-                compareRow(rowOfNumber(draws.between(0, power(2, n) - 1), n, 2));
+                int[] digits = rowOfNumber(number, n, 4);
+                FewLooks x = withRow(digits);
+                Model m = new Model();
+                m.row = digits;
+                for (int kind = 0; kind < 4; kind++) {
+                    if (n <= 5) {
+                        compareSubject(x, m, kind);
+                    } else {
+                        compareKind(x, m, kind);
+                    }
+                }
             }
         }
     }

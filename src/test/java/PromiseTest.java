@@ -133,9 +133,9 @@ public final class PromiseTest extends Checks {
         due("N after mend(3)", x.count(0), 6);
         due("mend(0)", x.mend(0), 1);
         due("row after mend(0)", rowOf(x), 11111);
-        FewLooks t = withAllBits();
-        due("mend(4)", t.mend(4), 4);
-        due("bits after mend(4)", bitsOf(t), 1010101);
+        FewLooks t = withBits(2, 3, 6);
+        due("mend(4)", t.mend(4), 1);
+        due("bits after mend(4)", bitsOf(t), 110011);
         FewLooks n = withLines(1, 2, 3, 12, 13, 23);
         due("colours of four", n.nearest(5, 0), 6);
         due("mend(5)", n.mend(5), 2);
