@@ -510,15 +510,6 @@ public final class OracleTest extends Checks {
     }
 
     private static void compareSubject(FewLooks x, Model m, int subject) {
-        compareKind(x, m, subject);
-        String name = "subject " + subject + " ";
-        for (int u : new int[] {1, 50, 75, 90, 99, 100}) {
-            due(name + "repeats", x.repeats(subject, u, 100), m.repeats(subject, u, 100));
-        }
-        due(name + "witness", x.witness(subject), m.witness(subject));
-    }
-
-    private static void compareKind(FewLooks x, Model m, int subject) {
         String name = "subject " + subject + " ";
         due(name + "is", x.is(subject), m.is(subject));
         due(name + "distance", x.distance(subject), m.distance(subject));
@@ -527,6 +518,10 @@ public final class OracleTest extends Checks {
         }
         due(name + "pass, above", x.pass(subject, 0), m.pass(subject, 0));
         due(name + "pass, below", x.pass(subject, 1), m.pass(subject, 1));
+        for (int u : new int[] {1, 50, 75, 90, 99, 100}) {
+            due(name + "repeats", x.repeats(subject, u, 100), m.repeats(subject, u, 100));
+        }
+        due(name + "witness", x.witness(subject), m.witness(subject));
     }
 
     private static void rows() {
@@ -537,11 +532,7 @@ public final class OracleTest extends Checks {
                 Model m = new Model();
                 m.row = digits;
                 for (int kind = 0; kind < 4; kind++) {
-                    if (n <= 5) {
-                        compareSubject(x, m, kind);
-                    } else {
-                        compareKind(x, m, kind);
-                    }
+                    compareSubject(x, m, kind);
                 }
             }
         }
